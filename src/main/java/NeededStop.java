@@ -183,7 +183,7 @@ public final class NeededStop {
         if (!told.isPerson(person)) {
             return UNKNOWN;
         }
-        foretellDay();
+        foretellDay(told.kinds);
         return foretold.homed[person];
     }
 
@@ -207,28 +207,29 @@ public final class NeededStop {
         if (what < 0 || what > 1) {
             return OUTSIDE;
         }
-        int best = 0;
-        int bestLate = lateBy(0);
-        for (int kinds = 1; kinds <= ALL_KINDS; kinds++) {
-            int late = lateBy(kinds);
-            if (late < bestLate) {
+        int best = NONE;
+        int least = 0;
+        for (int kinds = 0; kinds <= ALL_KINDS; kinds++) {
+            foretellDay(kinds);
+            int late = foretold.lateOfAll();
+            if (best == NONE || late < least) {
                 best = kinds;
-                bestLate = late;
+                least = late;
             }
         }
-        return what == 0 ? best : bestLate;
+        return what == 0 ? best : least;
     }
 
     public int worn(int place) {
         if (!told.isPlace(place)) {
             return UNKNOWN;
         }
-        foretellDay();
+        foretellDay(told.kinds);
         return foretold.halts.atPlace(place);
     }
 
     public int dry() {
-        foretellDay();
+        foretellDay(told.kinds);
         int dry = 0;
         for (int place = 0; place < told.places; place++) {
             if (foretold.halts.atPlace(place) == 0) {
@@ -242,7 +243,7 @@ public final class NeededStop {
         if (what < 0 || what > 2) {
             return OUTSIDE;
         }
-        foretellDay();
+        foretellDay(told.kinds);
         int last = NONE;
         int lastLate = 0;
         int lastFolk = 1;
@@ -263,7 +264,7 @@ public final class NeededStop {
     }
 
     public int fares() {
-        foretellDay();
+        foretellDay(told.kinds);
         int all = 0;
         for (int person = 0; person < PEOPLE; person++) {
             all += foretold.owed[person];
@@ -342,15 +343,9 @@ public final class NeededStop {
         readBack.known = false;
     }
 
-    private void foretellDay() {
-        foretold.begin(told.kinds, told.span);
-        foretold.runTo(MINUTES);
-    }
-
-    private int lateBy(int kinds) {
+    private void foretellDay(int kinds) {
         foretold.begin(kinds, told.span);
         foretold.runTo(MINUTES);
-        return foretold.lateOfAll();
     }
 
     private static int lowestPart(int above, int below, int part) {

@@ -534,6 +534,10 @@ public final class PromisesTest {
         // A mood told for minute 1 is felt ahead of the feigned one, which is left for minute 4.
         stop = Calls.told("rail 4;tram 0 1 1 0;folk 0 1 2;folk 1 1 3;tears 1 1");
         dueFeigned(stop, 0, 1, new int[] {3, 1, 3, NONE});
+        // Two trams come at once and the first one's seat goes to another, so both moods are felt ahead of them.
+        NeededStop both = Calls.told("rail 4;seats 1;tram 0 0 0 0;tram 1 0 0 0;folk 0 1 2;folk 5 1 3;folk 6 3 0;tears 6 4;debt 6 4");
+        dueFeigned(both, 5, 1, new int[] {NONE, NONE, NONE, NONE});
+        dueFeigned(both, 5, 2, new int[] {4, 2, 0, 1});
         // What is known of one told day is not what holds of the next.
         Calls.writeText(stop, "tram 0 1 5 0;tears 1 5");
         stop.rail();
@@ -660,8 +664,15 @@ public final class PromisesTest {
         due("seen twice is one halt", stop.read(0), 4 * 28);
         due("a day is not gone", stop.count(8), 0);
         stop = Calls.told("rail 4;tram 0 0 0 0;folk 0 2 3");
+        // The mood that is drawn is laughter in minute 30, when the tram begins to go from 0 to 1 once more.
+        stop.seen(2, 32);
+        due("no mood yet, no law", stop.read(0), 0);
+        stop.drawn(2, 1);
+        due("read anew behind drawn", stop.read(0), 4 * 28);
+        due("laughter alone", stop.read(1), 2);
+        stop.forget();
         stop.seen(2, 2);
-        due("no mood, no law", stop.read(0), 0);
+        due("no mood then, no law", stop.read(0), 0);
         Calls.writeText(stop, "debt 0 0");
         stop.rail();
         due("a text forgets what was seen", stop.read(0), 210);
