@@ -155,6 +155,14 @@ public final class DayEdgesTest extends Edges {
         dueRow("moods", i -> stop.halt(i, 3), 0, 1, 2, NONE);
     }
 
+    void tramsThatHaltAtOnceBothGoOn() {
+        NeededStop stop = gone(1, "rail 4;tram 0 1 0 0;tram 1 1 0 0;folk 0 1 3;" + lines("tears 0 0", 4));
+        due("both halted", stop.count(9), 2);
+        stop.go(1);
+        due("no more halts", stop.count(9), 2);
+        dueRow("both went on", tram -> stop.tram(tram, 0), 2, 2);
+    }
+
     void tramsHaltsAreTheirOwn() {
         NeededStop stop = gone(1, "rail 4;tram 0 1 0 0;tram 1 1 0 0;folk 0 1 3;tears 0 0");
         due("tram 0", stop.tram(0, 3), 1);

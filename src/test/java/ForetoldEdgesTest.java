@@ -167,6 +167,22 @@ public final class ForetoldEdgesTest extends Edges {
         dueFeigned(stop, 0, 2, 4, 1, 4, NONE);
     }
 
+    void feignedIsOfTheOneThatIsAsked() {
+        NeededStop stop = Calls.told("rail 4;tram 0 0 0 0;folk 0 1 3;folk 6 0 3;folk 7 2 3");
+        for (int i = 0; i < 2; i++) {
+            dueFeigned(stop, 0, 2, 4, 2, 0, 4);
+            dueFeigned(stop, 7, 2, 4, 2, 0, 4);
+            dueFeigned(stop, 6, 2, 4, 2, 0, 4);
+            dueFeigned(stop, 0, 1, NONE, NONE, NONE, NONE);
+            dueFeigned(stop, 7, 1, NONE, NONE, NONE, NONE);
+        }
+        tell(stop, "tears 0 1");
+        dueFeigned(stop, 0, 1, 4, 1, 4, NONE);
+        dueFeigned(stop, 6, 1, NONE, NONE, NONE, NONE);
+        dueFeigned(stop, 7, 1, NONE, NONE, NONE, NONE);
+        dueFeigned(stop, 0, 1, 4, 1, 4, NONE);
+    }
+
     void feignedIsSoughtAnewBehindATextOrADrawnMood() {
         NeededStop stop = Calls.told("rail 4;tram 0 0 0 0;folk 0 1 3");
         dueFeigned(stop, 0, 2, 4, 2, 0, 4);

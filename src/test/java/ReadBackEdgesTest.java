@@ -206,6 +206,12 @@ public final class ReadBackEdgesTest extends Edges {
         due("three", stop.read(0), 0);
         tell(stop, "calm");
         due("a text", stop.read(0), 210);
+        // The mood that is drawn is laughter in minute 30, and the tram is at 1 in minute 30.
+        tell(stop, "tram 0 1 30 0");
+        stop.seen(1, 30);
+        due("no mood", stop.read(0), 0);
+        stop.drawn(2, 1);
+        dueRow("a drawn mood", stop::read, 120, 2, 1);
     }
 
     // ---- Promise 24: odds
@@ -251,6 +257,10 @@ public final class ReadBackEdgesTest extends Edges {
         dueRow("tears", part -> stop.odds(0, part), 60, 89);
         dueRow("laughter", part -> stop.odds(1, part), 1, 2);
         dueRow("debt", part -> stop.odds(2, part), 59, 89);
+        stop.seen(1, 1);
+        dueRow("tears, the halt seen again", part -> stop.odds(0, part), 60, 89);
+        stop.forget();
+        dueRow("tears, nothing seen", part -> stop.odds(0, part), 4, 7);
     }
 
     // ---- Promise 25: count

@@ -336,6 +336,10 @@ public final class TextEdgesTest extends Edges {
                 dueFault(withAllFolk(), line.word.substring(0, cut) + numbers, 0);
                 dueFault(withAllFolk(), line.word.substring(cut) + numbers, 0);
             }
+            for (int i = 0; i < line.word.length(); i++) {
+                String other = line.word.substring(0, i) + "y" + line.word.substring(i + 1);
+                dueFault(withAllFolk(), other + numbers, 0);
+            }
             for (char more : new char[] {'a', 's', 'z'}) {
                 dueFault(withAllFolk(), line.word + more + numbers, 0);
                 dueFault(withAllFolk(), more + line.word + numbers, 0);
@@ -577,6 +581,10 @@ public final class TextEdgesTest extends Edges {
         due("none again", stop.count(7), 0);
         tell(stop, "laughter 0 3");
         due("the first is 0 again", stop.mood(0, 1), 1);
+        stop.go(2);
+        due("not felt when the old one was", stop.mood(0, 3), NONE);
+        stop.go(2);
+        due("felt in its minute", stop.mood(0, 3), 1);
     }
 
     void folkToldAnewKeepTheirMoods() {
@@ -589,6 +597,17 @@ public final class TextEdgesTest extends Edges {
         due("the other's begin", stop.person(3, 0), 1);
         stop.go(2);
         due("felt where it is now", stop.mood(0, 3), 4);
+    }
+
+    void folkToldAnewLeaveNoCauseWhereTheyWere() {
+        NeededStop stop = gone(60, "tram 0 1 0 0;folk 0 1 3;tears 0 0");
+        due("a halt where it was", stop.halt(0, 1), 1);
+        tell(stop, "folk 0 4 5");
+        stop.go(1);
+        due("no halt there now", stop.count(9), 0);
+        stop.go(59);
+        due("one where it is", stop.halt(0, 1), 4);
+        due("in the minute in which the tram comes", stop.halt(0, 2), 3);
     }
 
     void tramsToldAnewBeginAnew() {
